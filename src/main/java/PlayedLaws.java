@@ -498,7 +498,7 @@ public final class PlayedLaws {
         }
 
         boolean isBilled(int scene) {
-            return placeOnBill(scene) != NONE;
+            return bill.placeOf(scene, billed) != NONE;
         }
 
         void mount(int scene, int place) {
@@ -573,15 +573,15 @@ public final class PlayedLaws {
 
         void bindAll(Night night) {
             for (int place = 0; place < billed; place++) {
+                int kind = sceneKinds.at(bill.at(place));
+                int clause = clauseBit(bill.at(place));
                 for (int seat = 0; seat < seats; seat++) {
-                    if (isIn(night.seen.at(seat), place)) bind(seat, bill.at(place));
+                    if (isIn(night.seen.at(seat), place)) bind(seat, kind, clause);
                 }
             }
         }
 
-        private void bind(int seat, int scene) {
-            int clause = clauseBit(scene);
-            int kind = sceneKinds.at(scene);
+        private void bind(int seat, int kind, int clause) {
             if (kind == TRAGEDY) bound.put(seat, bound.at(seat) & ~clause);
             else if (kind != SONG || tastes.at(seat) == SONG) bound.put(seat, bound.at(seat) | clause);
         }

@@ -156,15 +156,22 @@ public final class PlayedLawsAgainstModel {
         String drawnText() {
             StringBuilder text = new StringBuilder();
             int scenes = 1 + random.nextInt(7), seats = 1 + random.nextInt(7);
-            int longest = 1 + random.nextInt(20), least = random.nextInt(31);
+            int longest = 1 + random.nextInt(20), least = random.nextInt(31), most = 30;
+            if (random.nextBoolean()) {
+                // all patiences about as high as the boredom: who leaves then takes others along
+                longest = 2 + random.nextInt(4);
+                least = Math.max(0, longest * scenes / 2 - 3);
+                most = Math.min(30, least + 6);
+            }
+            int plain = random.nextInt(4);
             for (int i = 0; i < scenes; i++) {
                 text.append('s').append(random.nextInt(4)).append(',').append(1 + random.nextInt(longest));
                 text.append(',').append(random.nextInt(9)).append(';');
                 if (i == 3 && random.nextBoolean()) bill(text, i + 1);
             }
             for (int i = 0; i < seats; i++) {
-                text.append('h').append(random.nextInt(4)).append(',').append(random.nextInt(4));
-                text.append(',').append(least + random.nextInt(31 - least)).append(';');
+                text.append('h').append(plain == 0 ? 0 : random.nextInt(4)).append(',').append(random.nextInt(4));
+                text.append(',').append(least + random.nextInt(most + 1 - least)).append(';');
             }
             if (random.nextInt(8) != 0) bill(text, scenes);
             if (random.nextInt(3) != 0) text.append('g').append(random.nextInt(100)).append(';');

@@ -469,6 +469,7 @@ public final class PlayedLawsPromises {
         dueSoonest(laws, 4, 4, 5);
         dueSoonest(laws, 3, 9, 2, 3);
         dueSoonest(laws, 7, 13, 2, 3, 5);
+        dueSoonest(laws, 0, 1, 1);
         dueSoonest(laws, 8, NONE);
         due("nothing is played or put on", laws.count(2), 0);
         // boredom above 5: the farce has to come first, or a row has to be another
@@ -481,6 +482,8 @@ public final class PlayedLawsPromises {
         laws = laid("s1,6,0;s1,6,1;s0,12,8;h0,0,10;");
         dueSoonest(laws, 3, 24, 0, 2, 1);
         due("a whole set", laws.soonest(255, 0), NONE);
+        laws = laid("s0,20,6;s0,20,5;s0,20,4;s0,20,3;s0,20,2;s0,20,1;s0,20,0;h3,1,0;");
+        dueSoonest(laws, 127, 140, 0, 1, 2, 3, 4, 5, 6);
         // what was played bores more, so that another row is the soonest
         laws = laid("s1,6,0;s2,7,0;h0,0,7;b0;");
         dueSoonest(laws, 1, 6, 0);
@@ -510,6 +513,20 @@ public final class PlayedLawsPromises {
         // the first of several does not hang on how they sit now
         laws.swap(0, 3);
         for (int k = 0; k < row.length; k++) due("seating " + k + " then", laws.seating(k), row[k]);
+        // each but 0 would stay alone, but two of them never do: 1, 2, 0 and 2, 1, 0 keep one
+        laws = laid("s0,5,0;s2,1,0;h0,1,4;h0,1,8;h0,1,8;b01;");
+        due("one stays", laws.seating(-1), 1);
+        int[] best = {1, 2, 0};
+        for (int k = 0; k < best.length; k++) due("seating " + k + " of three", laws.seating(k), best[k]);
+        // 0 is ahead of 1 as that one leaves, and there is no further scene
+        laws = laid("s0,5,0;h0,1,5;h0,1,4;h3,1,0;b0;");
+        due("two stay", laws.seating(-1), 2);
+        int[] apart = {0, 1, 2};
+        for (int k = 0; k < apart.length; k++) due("seating " + k + " apart", laws.seating(k), apart[k]);
+        laws = laid("s0,5,0;s2,1,0;h0,1,8;h0,1,4;h3,1,0;b01;");
+        due("all but one stay", laws.seating(-1), 2);
+        int[] between = {0, 2, 1};
+        for (int k = 0; k < between.length; k++) due("seating " + k + " between", laws.seating(k), between[k]);
         laws = laid("s0,5,0;h0,1,9;h0,1,9;h0,1,9;h0,1,9;h0,1,9;h0,1,9;h0,1,4;b0;");
         due("six of seven", laws.seating(-1), 6);
         for (int k = 0; k < 7; k++) due("seating " + k, laws.seating(k), k);
@@ -750,6 +767,22 @@ public final class PlayedLawsPromises {
         laws.play();
         dueSeason(laws, 0, 1, 0, 2);
         dueSeason(laws, 0, 2, 1, 2);
+        // one scene, one seat: the draws fall on them
+        dueSeason(laid("s0,1,0;h0,0,30;"), 0, 2, 1, 1);
+        // z 20: draws 22874 and 57143: scene 1 of two is cut, then a night; z 63: 5234 and 60023: scene 0
+        laws = laid("s0,1,0;s0,9,1;h0,1,5;b01;");
+        dueSeason(laws, 20, 2, 1, 1);
+        dueSeason(laws, 63, 2, 0, 0);
+        // z 60: draws 8844 and 28679: seat 1 of three is hired, then a night; z 39: 5836 and 43077: seat 0
+        for (int till : new int[] {4, 5, 6, 20}) {
+            laws = laid("s0,5,0;h0,0,0;h0,1,0;h0,1,0;b0;g" + till + ";");
+            dueSeason(laws, 60, 2, till > 5 ? 1 : 0, till > 5 ? 3 : 0);
+            dueSeason(laws, 39, 2, 0, 0);
+        }
+        // z 253: draws 29547 and 48535: seats 0 and 2 of three change places, then a night; z 73: 3067: 2 and 2 do not
+        laws = laid("s0,5,0;h0,1,4;h0,1,7;h0,0,9;b0;");
+        dueSeason(laws, 253, 2, 1, 3);
+        dueSeason(laws, 73, 2, 0, 0);
         for (int wild : new int[] {-1, 10000}) due("season " + wild, laws.season(wild, 1, 0), BAD);
         for (int wild : new int[] {-1, 0, 41}) due("season 0 " + wild, laws.season(0, wild, 0), BAD);
         for (int wild : new int[] {-1, 2}) due("season 0 1 " + wild, laws.season(0, 1, wild), BAD);
@@ -803,12 +836,19 @@ public final class PlayedLawsPromises {
         due("no more", laws.back(), NO);
         due("a refused one leaves what can be undone", laws.add(1) == 1 && laws.back() == NO ? laws.undo() : BAD, 0);
         // a search made before it is not told behind it
+        laws = laid("s0,5,0;h0,1,0;b0;");
         laws.keep();
         laws.hire(0);
-        laws.cut(0);
-        due("by an empty bill", laws.seating(-1), 2);
+        due("hired, it stays", laws.seating(-1), 1);
+        due("hired, it makes the law pass", laws.soonest(1, 0), 5);
         laws.back();
-        due("as kept", laws.soonest(2, 1), 1);
+        due("as kept, it leaves", laws.seating(-1), 0);
+        due("as kept, none passes", laws.soonest(1, 0), NONE);
+        // and nothing of its own is told behind a text that is laid anew
+        laws.hire(0);
+        due("hired again", laws.seating(-1), 1);
+        laws.lay();
+        due("laid anew", laws.seating(-1), 0);
     }
 
     private static void count() {
