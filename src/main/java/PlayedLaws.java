@@ -903,7 +903,8 @@ public final class PlayedLaws {
         private void tryAddition(House house, int scene, int place) {
             trial.copy(house);
             trial.mount(scene, place);
-            if (trialPasses()) trial.bindAll(night);
+            night.unfold(trial, 0);
+            if (night.carries(trial)) trial.bindAll(night);
             int bindings = trial.bindings();
             if (bindings <= binding) return;
             binding = bindings;
