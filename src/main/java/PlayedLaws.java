@@ -745,7 +745,14 @@ public final class PlayedLaws {
             trial.copy(house);
             length = 0;
             minutes = TOO_LONG;
-            extend(this, 0, 0, 0, set);
+            // most sets hold a clause that no scene brings: no row needs to be tried for them
+            if ((set & ~allBindable()) == 0) extend(this, 0, 0, 0, set);
+        }
+
+        private int allBindable() {
+            int all = 0;
+            for (int scene = 0; scene < trial.scenes; scene++) all |= bindable(scene);
+            return all;
         }
 
         /** Rows come in their order, so of equally short ones the first found stays. */
