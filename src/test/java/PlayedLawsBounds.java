@@ -1158,6 +1158,8 @@ public final class PlayedLawsBounds {
         // what was found ahead of it is not told behind it
         theatre = laid("s0,5,0;h0,1,4;b0;").due("seating -1 = 0", "soonest 1 0 = NONE", "hire 0", "seating -1 = 1", "soonest 1 0 = 5");
         theatre.due("undo = 0", "seating -1 = 0", "soonest 1 0 ! NONE");
+        theatre = laid("s0,5,0;s0,5,0;h0,1,4;b0;").due("hire 0", "seating -1 = 1", "soonest 1 0 = 5", "undo = 0", "add 1 = 1");
+        theatre.due("seating -1 = 0", "soonest 1 0 ! NONE");
     }
 
     @Says(in = "Promise 16", words = "SOONEST: how many minutes (k = 0), the k-th (1 to 7; NONE: there are not so many). NONE; BAD (a set below 256).")
