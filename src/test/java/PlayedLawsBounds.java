@@ -1059,6 +1059,10 @@ public final class PlayedLawsBounds {
         theatre.due("undo ! NO", "back ! NO", "forget = 0", "scene 0 4 = 0", "scene 1 3 ! NONE", "seat 0 0 = 0", "seat 0 3 = 0", "seat 0 4 = 0");
         theatre.due("fault = NONE", "write 120 = 35", "lay ! NO", "fault = 34");
         for (int seats = 1; seats <= 7; seats++) written("s0,1,0;" + times(seats, "h0,0,0;")).due("lay = " + seats);
+        // what was found ahead of it is not told behind it
+        theatre = laid("s0,5,0;s0,5,0;h0,1,4;b0;").due("hire 0", "seating -1 = 1", "soonest 1 0 = 5", "lay = 1");
+        theatre.due("seating -1 = 0", "soonest 1 0 ! NONE");
+        theatre.due("hire 0", "seating -1 = 1", "soonest 1 0 = 5", "lay = 1", "add 1 = 1", "seating -1 = 0", "soonest 1 0 ! NONE");
     }
 
     @Says(in = "Promise 6", words = "Of a SCENE: KIND (what = 0), M (1), C (2; NONE), its place on the BILL (3; NONE), on how many NIGHTS it was played (4). BAD.")
@@ -1269,6 +1273,8 @@ public final class PlayedLawsBounds {
         Theatre theatre = laid("s0,1,0;h0,0,9;h0,0,9;b0;").due("keep = 1", "swap 0 1", "keep = 2", "cut 0", "cut 0 ! NO", "back = 1");
         theatre.due("count 2 = 1", "seat 0 3 = 1", "count 9 = 0", "undo ! NO", "swap 0 1", "back = 0", "seat 0 3 = 0", "undo ! NO", "back ! NO");
         theatre = laid("s0,5,0;h0,1,4;b0;").due("keep", "hire 0", "seating -1 = 1", "soonest 1 0 = 5", "back = 0");
+        theatre.due("seating -1 = 0", "soonest 1 0 ! NONE");
+        theatre = laid("s0,5,0;s0,5,0;h0,1,4;b0;").due("keep", "hire 0", "seating -1 = 1", "soonest 1 0 = 5", "back = 0", "add 1 = 1");
         theatre.due("seating -1 = 0", "soonest 1 0 ! NONE");
     }
 
